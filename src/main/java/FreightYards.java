@@ -185,7 +185,7 @@ public final class FreightYards {
             if (type < 0 || type >= INT || other < 0 || other >= INT) {
                 return false;
             }
-            if (type >= ROW != other >= ROW) {
+            if ((type >= ROW) != (other >= ROW)) {
                 return false;
             }
             return (ABOVE[type % ROW] >> other % ROW & 1) == 1;
@@ -559,6 +559,11 @@ public final class FreightYards {
             return p >= 0 && p < procs;
         }
 
+        // The five stay as they are, whatever a faulty text asks for.
+        private boolean isOwnProc(int p) {
+            return p >= FIVE && p < procs;
+        }
+
         int addProc() {
             if (procs >= MOST_PROCS) {
                 return NONE;
@@ -571,14 +576,14 @@ public final class FreightYards {
         }
 
         void addParameter(int p, int type) {
-            if (isProc(p) && parameterCounts[p] < MOST_PARAMETERS) {
+            if (isOwnProc(p) && parameterCounts[p] < MOST_PARAMETERS) {
                 parameters[p * MOST_PARAMETERS + parameterCounts[p]] = type;
                 parameterCounts[p]++;
             }
         }
 
         void setGiven(int p, int type) {
-            if (isProc(p)) {
+            if (isOwnProc(p)) {
                 gives[p] = type;
             }
         }
@@ -727,6 +732,7 @@ public final class FreightYards {
         void read(Code into) {
             code = into;
             code.clear();
+            proc = NONE;
             fault = 0;
             faultPlace = NONE;
             at = NONE;
@@ -1387,11 +1393,13 @@ public final class FreightYards {
 
     private static final class Row {
         final int of;
+        final int number;
         final int size;
         private final Vehicle[] places;
 
-        Row(int of, int size) {
+        Row(int of, int number, int size) {
             this.of = of;
+            this.number = number;
             this.size = Math.max(0, size);
             places = new Vehicle[this.size];
         }
@@ -1503,7 +1511,7 @@ public final class FreightYards {
             if (size < 0 || !hasRoomForRow(size)) {
                 return NOTHING;
             }
-            rows[rowCount] = new Row(of, size);
+            rows[rowCount] = new Row(of, rowCount, size);
             rowCount++;
             placeCount += size;
             return -rowCount;
@@ -1519,17 +1527,12 @@ public final class FreightYards {
             return reference < 0 && reference >= -rowCount ? rows[-reference - 1] : null;
         }
 
-        static int referenceTo(Vehicle vehicle) {
+        static int referenceToVehicle(Vehicle vehicle) {
             return vehicle == null ? NOTHING : vehicle.number + 1;
         }
 
-        int referenceTo(Row row) {
-            for (int i = 0; i < rowCount && row != null; i++) {
-                if (rows[i] == row) {
-                    return -i - 1;
-                }
-            }
-            return NOTHING;
+        static int referenceToRow(Row row) {
+            return row == null ? NOTHING : -1 - row.number;
         }
 
         /** The type of a thing as it is; NONE for NOTHING. */
@@ -1860,11 +1863,11 @@ public final class FreightYards {
         }
 
         private void raise(int why) {
-            raise(why, why);
+            raiseWith(why, why);
         }
 
         /** The innermost try takes the fault, and its catch finds the value on the stack. */
-        private void raise(int why, int value) {
+        private void raiseWith(int why, int value) {
             if (faults >= MOST_FAULTS) {
                 end(NO_ROOM);
                 return;
@@ -1920,10 +1923,10 @@ public final class FreightYards {
                 case Code.SAY_INT: say(pop()); break;
                 case Code.SAY_REFERENCE: sayReference(); break;
                 case Code.RETURN: leave(arg == 1 ? pop() : 0); break;
-                case Code.FAIL: raise(OWN, pop()); break;
+                case Code.FAIL: raiseWith(OWN, pop()); break;
                 case Code.UNLESS: next = pop() == 0 ? arg : next; break;
                 case Code.CALL: enter(arg); break;
-                case Code.CALL_TRACK: push(yard.referenceTo(line.rowOn(pop()))); break;
+                case Code.CALL_TRACK: push(Yard.referenceToRow(line.rowOn(pop()))); break;
                 case Code.CALL_LAY: doLay(); break;
                 case Code.CALL_HUMP: doHump(); break;
                 case Code.CALL_SEND: doSend(); break;
@@ -1967,7 +1970,7 @@ public final class FreightYards {
             } else if (!row.hasPlace(i)) {
                 raise(NO_PLACE);
             } else {
-                push(Yard.referenceTo(row.vehicleAt(i)));
+                push(Yard.referenceToVehicle(row.vehicleAt(i)));
             }
         }
 
