@@ -755,16 +755,18 @@ public final class FreightYards {
 
         /** Goes behind a token of which nothing more is asked but that it is not one too many. */
         private void pass() {
-            if (fault == 0 && at >= MOST_TOKENS) {
-                refuse(TOO_MUCH, tokenPlace);
-            }
             int i = at + 1;
-            if (fault == 0 && i >= 0 && i < tape.tokens) {
+            if (fault == 0 && i > MOST_TOKENS) {
+                fault = TOO_MUCH;
+                faultPlace = tokenPlace;
+            }
+            boolean goesOn = fault == 0 && i >= 0 && i < tape.tokens;
+            kind = goesOn ? tape.kinds[i] : STOP;
+            nextKind = goesOn && i + 1 < tape.tokens ? tape.kinds[i + 1] : STOP;
+            if (goesOn) {
                 at = i;
-                kind = tape.kinds[i];
                 tokenPlace = tape.places[i];
                 value = tape.values[i];
-                nextKind = i + 1 < tape.tokens ? tape.kinds[i + 1] : STOP;
             }
         }
 
