@@ -8,6 +8,7 @@ public final class Promise03LoadTest {
         countsProcs();
         tellsOnlyTwoThings();
         staysRightAfterFaults();
+        readsNoByteBehindTheText();
         Yards.end();
     }
 
@@ -111,5 +112,27 @@ public final class Promise03LoadTest {
         Yards.load(x, "to 5(BOX b): BOX[] { }");
         Yards.load(x, "to now(BOX b): BOX[] { }");
         Yards.due("load", 1, Yards.load(x, "to m(): VEHICLE[] { return track(now()); }"));
+    }
+
+    private static void cut(String text, int n, int fault, int place) {
+        FreightYards x = Yards.fresh(text + " up to " + n);
+        Yards.feed(x, text);
+        Yards.due("load", 0, x.load(n));
+        Yards.due("fault(0)", fault, x.fault(0));
+        Yards.due("fault(1)", place, x.fault(1));
+    }
+
+    private static void readsNoByteBehindTheText() {
+        cut("to m(){say 12a;}", 13, 1, 13);
+        cut("to m(){say 1==2;}", 13, 1, 12);
+        cut("to m(INT x){x=1;}", 9, 1, 9);
+        cut("to m(VANS s){}", 8, 1, 8);
+        cut("to m(VANS s){}", 9, 1, 5);
+        cut("to m(){foo();}", 9, 2, 7);
+        cut("to m(INT a, BOX b)", 15, 1, 15);
+        cut("to m(INT a) {    }", 14, 1, 14);
+        FreightYards x = Yards.fresh("a longer text before");
+        Yards.loaded(x, "to m() { say 1; say 2; say 3; say 4; } to n() { }");
+        Yards.due("load", 1, Yards.load(x, "to m(){}"));
     }
 }

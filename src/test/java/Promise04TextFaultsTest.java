@@ -54,6 +54,9 @@ public final class Promise04TextFaultsTest {
         bad(1, "say ~1234567890;");
         bad(1, "say ~12a;");
         bad(1, "say ~12A;");
+        bad(1, "say ~12z;");
+        bad(1, "say ~12Z;");
+        bad(1, "say new ~BOXZ();");
         good("say 007;say-7;say - 7;");
         bad(1, "say 1 ~! 2;");
         bad(1, "say 1 ~! = 2;");
@@ -146,6 +149,10 @@ public final class Promise04TextFaultsTest {
         good("new BOX().load = 1; new BOX[1][0] = b; none.tag = 1; track(1)[0] = v; track(0)[0].tag = 3;");
         good("now(); track(1); (v as BOX).load = 1;");
         bad(1, "i~;");
+        bad(1, "i ~i = 1;");
+        bad(1, "v.tag ~say 1;");
+        bad(1, "1 ~say 1;");
+        bad(1, "now() ~say 1;");
         bad(1, "i ~+ 1;");
         bad(1, "i ~== 1;");
         bad(1, "(i) ~= 1;");
@@ -179,6 +186,11 @@ public final class Promise04TextFaultsTest {
         bad(1, "while (" + times("(", 9) + "~(1" + times(")", 11) + " { }");
         good("say r[" + times("(", 9) + "1" + times(")", 9) + "];");
         bad(1, "say r[" + times("(", 9) + "~(1" + times(")", 10) + "];");
+        bad(1, "say lay(" + times("(", 9) + "~(1" + times(")", 10) + ", r);");
+        bad(1, "say lay(1, " + times("(", 9) + "~(r" + times(")", 11) + ";");
+        good("say lay(" + times("(", 9) + "1" + times(")", 9) + ", " + times("(", 9) + "r" + times(")", 10) + ";");
+        bad(1, "say new BOX[" + times("(", 9) + "~(1" + times(")", 10) + "];");
+        good("say new BOX[" + times("(", 9) + "1" + times(")", 9) + "];");
         bad(1, "say " + times("(", 10) + "now~()" + times(")", 10) + ";");
         bad(1, "say " + times("(", 10) + "new BOX~()" + times(")", 10) + ";");
         bad(1, "say " + times("(", 10) + "new BOX~[1]" + times(")", 10) + ";");

@@ -10,6 +10,7 @@ public final class Promise05RunTest {
         faults();
         catches();
         leavesNothingHalfDone();
+        dropsWhatNobodyTakes();
         ends();
         deep();
         rooms();
@@ -128,6 +129,8 @@ public final class Promise05RunTest {
         Yards.due("given", 2, given("to m(): INT { if (0) { return 1; } else { return 2; } }"));
         Yards.due("given", 3, given("to m(): INT { if (0) { return 1; } return 3; }"));
         Yards.due("given", 0, given("to m(): INT { if (0) { return 1; } }"));
+        Yards.due("given", 6, given("to m(): INT { var INT s = 1; if (1) { s = 2; } else { s = 9; } s = s * 3; return s; }"));
+        Yards.due("given", 27, given("to m(): INT { var INT s = 1; if (0) { s = 2; } else { s = 9; } s = s * 3; return s; }"));
         Yards.due("given", 5, given("to m(INT x): INT { while (1) { if (x == 5) { return x; } x = x + 1; } }"));
         Yards.due("given", 7, given("to m(INT x, INT y): INT { if (x == 0) { return y; } return m(x - 1, y + 1); }"));
         Yards.due("given", 7, given("to m(INT x): INT { var INT y = 1; if (x < 5) { y = y + m(x + 1); "
@@ -223,12 +226,16 @@ public final class Promise05RunTest {
             + "to g(INT n): INT { try { f(n); return 1; } catch (e) { return e; } } "
             + "to h(): INT { var INT s = 3 + g(4) + g(0) * 2; try { fail 1; } catch (e) { s = s + e; } return s; } "
             + "to k(): INT { try { return 5; } catch (e) { } } "
-            + "to l(): INT { var INT r = 1 + k(); fail 6; }");
+            + "to l(): INT { var INT r = 1 + k(); fail 6; } "
+            + "to n(INT x): INT { if (x) { try { f(0); } catch (e) { return e; } } f(0); try { say 1; } catch (e) { } }");
+        Yards.due("a call at a try's end", 0, x.run(5, 1, 0, 500));
+        Yards.due("told(1)", 30, x.told(1));
+        Yards.due("a call ahead of a try", 6, x.run(5, 0, 0, 500));
         Yards.due("run(1)", 0, x.run(1, 5, 0, 500));
         Yards.due("told(1)", 30, x.told(1));
         Yards.due("run(2)", 0, x.run(2, 0, 0, 500));
         Yards.due("told(1)", 94, x.told(1));
-        Yards.due("count(6)", 4, x.count(6));
+        Yards.due("count(6)", 6, x.count(6));
         Yards.due("a try that was left is not under way", 6, x.run(4, 0, 0, 500));
         Yards.due("told(5)", 6, x.told(5));
         Yards.due("run(0)", 6, x.run(0, 3, 0, 500));
@@ -246,6 +253,13 @@ public final class Promise05RunTest {
         Yards.due("count(2)", 1, x.count(2));
         Yards.due("count(3)", 2, x.count(3));
         Yards.due("count(7)", 0, x.count(7));
+    }
+
+    /** What a call gives and nothing takes must not pile up. */
+    private static void dropsWhatNobodyTakes() {
+        String many = "now(); ".repeat(60);
+        Yards.due("given", 43, given("to f(INT n): INT { var INT i = 0; while (i < 28) { " + many
+            + "i = i + 1; } return i + 5 * n; }"));
     }
 
     private static void ends() {
