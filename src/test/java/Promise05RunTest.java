@@ -13,6 +13,7 @@ public final class Promise05RunTest {
         dropsWhatNobodyTakes();
         ends();
         deep();
+        manyWait();
         rooms();
         manyFaults();
         Yards.end();
@@ -295,6 +296,21 @@ public final class Promise05RunTest {
         Yards.due("told(0)", 9, x.told(0));
         Yards.due("told(6)", text.indexOf("m(n - 1)"), x.told(6));
         Yards.due("run 15 deep again", 0, x.run(0, 15, 0, 500));
+    }
+
+    /** Brackets ten deep in calls ten deep leave many values waiting. */
+    private static void manyWait() {
+        String e = "f(a - 1, b, c + 1, 7)";
+        for (int k = 0; k < 9; k++) {
+            e = (k == 8 ? "4" : "1") + " + 2 * f(0, 5, " + (k + 3) + ", " + e + ")";
+        }
+        FreightYards x = Yards.fresh("many values wait");
+        Yards.loaded(x, "to f(INT a, INT b, INT c, INT d): INT { if (a < 1) { return c * 3 + d + b; } "
+            + "return 9 - 2 * (a) + " + e + "; } to m(INT a, INT b): INT { return f(a, b, 1, 2); }");
+        Yards.due("run", 0, x.run(1, 9, 63, 2000));
+        Yards.due("told(1)", 1327467425, x.told(1));
+        Yards.due("told(4)", 182, x.told(4));
+        Yards.due("run", 9, x.run(1, 14, 98, 2000));
     }
 
     private static void rooms() {
