@@ -112,6 +112,26 @@ public final class LanguageRulesTest {
         long fresh = size(new FreightYards(), seen);
         System.out.println("a new object: " + seen.size() + " objects and arrays, " + fresh + " fields and elements");
         Yards.due("a new object is small", true, fresh < 20000 && seen.size() < 60);
+        seen = new IdentityHashMap<>();
+        long full = size(full(), seen);
+        System.out.println("a full object: " + seen.size() + " objects and arrays, " + full + " fields and elements");
+        Yards.due("a full object is small", true, full < 30000 && seen.size() < 1000);
+    }
+
+    /** All vehicles, rows, places, trains and all that is said. */
+    private static FreightYards full() {
+        FreightYards x = Yards.fresh("a full object");
+        Yards.loaded(x, "to v(INT n) { while (0 < n) { say new BOX(); n = n - 1; } } "
+            + "to r(INT n) { while (0 < n) { send(new BOX[10], 1, 1); n = n - 1; } }");
+        for (int i = 0; i < 2; i++) {
+            x.run(0, 150, 0, 2000);
+            x.run(1, 100, 0, 2000);
+        }
+        int[] due = {2, 300, 200, 2000, 10, 0, 0, 300};
+        for (int what = 0; what < due.length; what++) {
+            Yards.due("count(" + what + ")", due[what], x.count(what));
+        }
+        return x;
     }
 
     private static long size(Object o, Map<Object, Boolean> seen) throws IllegalAccessException {
